@@ -174,13 +174,12 @@ public final class RoundBounds {
 
         boolean streetsHangTogether() {
             int all = placesWithStreets();
-            return all == 0 || (reached(streets, all, false) & all) == all;
+            return (reached(streets, all, false) & all) == all;
         }
 
         boolean waysLeadFromEachToEach() {
             int all = placesWithStreets();
-            return all == 0
-                    || (reached(ways, all, false) & reached(ways, all, true) & all) == all;
+            return (reached(ways, all, false) & reached(ways, all, true) & all) == all;
         }
 
         private int placesWithStreets() {
@@ -195,7 +194,10 @@ public final class RoundBounds {
             return found;
         }
 
-        /** The places that one comes to from the least of these (backwards: that come to it). */
+        /**
+         * The places that one comes to from the least of these (backwards: that come to it);
+         * none, if these are none, so that a net without streets hangs together.
+         */
         private int reached(int[][] links, int places, boolean backwards) {
             int found = places & -places;
             for (int turn = 1; turn < n; turn++) {

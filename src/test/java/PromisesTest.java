@@ -126,6 +126,14 @@ public final class PromisesTest {
         CHECK.due("the others are in two pieces", y.tree(50), NONE);
         y.way(3, 2, 0);
         CHECK.due("a street by one way alone, of length 0", y.tree(1), 3);
+        int[][] uneven = {{0, 2, 1}, {0, 3, 2}, {0, 4, 3}, {1, 2, 2}, {1, 3, 1}, {1, 4, 3},
+            {2, 3, 3}, {2, 4, 2}, {3, 4, 2}};
+        RoundBounds odd = new RoundBounds(5);
+        for (int[] s : uneven) {
+            odd.way(s[0], s[1], s[2]);
+        }
+        CHECK.due("half of an odd worth, 17, rounded up", odd.tree(50), 9);
+        CHECK.due("half of an odd worth: round", odd.rounds(), 18);
         RoundBounds zero = ring(5, 0);
         CHECK.due("all of length 0", zero.tree(50), 0);
         CHECK.due("all of length 0: round", zero.rounds(), 1);
@@ -243,6 +251,13 @@ public final class PromisesTest {
         x.way(3, 4, 1000000L);
         CHECK.due("one way makes a street for both sides", x.cut(4, 3), 1000000L);
         CHECK.due("through it", x.cut(4, 0), 5);
+        int[][] twisted = {{0, 1, 4}, {0, 2, 3}, {0, 3, 3}, {0, 5, 5}, {1, 2, 2}, {1, 4, 3},
+            {1, 5, 3}, {2, 3, 4}, {2, 5, 4}, {4, 5, 4}};
+        RoundBounds turned = new RoundBounds(6);
+        for (int[] s : twisted) {
+            turned.way(s[0], s[1], s[2]);
+        }
+        CHECK.due("what flows must turn round in a street", turned.cut(0, 5), 15);
         RoundBounds all = new RoundBounds(12);
         for (int a = 0; a < 12; a++) {
             for (int b = 0; b < a; b++) {

@@ -30,10 +30,20 @@ final class Check {
             made.run();
         } catch (RuntimeException e) {
             got = e.getClass().getName();
+            StackTraceElement[] trace = e.getStackTrace();
             due(call + ": thrown by the class itself",
-                    e.getStackTrace()[0].getClassName().startsWith("RoundBounds"), true);
+                    trace.length > 0 && trace[0].getClassName().startsWith("RoundBounds"), true);
+            due(call + ": thrown by the machine", isOfTheMachine(e.getMessage()), false);
         }
         due(call + " throws", got, want.getName());
+    }
+
+    private static boolean isOfTheMachine(String text) {
+        return text != null && (text.contains("out of bounds for") || text.equals("/ by zero"));
+    }
+
+    int seen() {
+        return seen;
     }
 
     void end() {

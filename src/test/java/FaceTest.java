@@ -7,7 +7,7 @@ import java.nio.file.Path;
 import java.util.Set;
 import java.util.TreeSet;
 
-/** The public face is the document's and nothing more; the source keeps to the plain part of Java. */
+/** The public face is the document's and nothing more; the source keeps to plain Java. */
 public final class FaceTest {
     private static final Check CHECK = new Check();
 

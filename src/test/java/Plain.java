@@ -5,7 +5,6 @@ import java.util.List;
 
 /** The document's words by the plainest means: everything is tried, nothing is clever. */
 final class Plain {
-    static final int MOST_UNITS = 18;
     private static final long FAR = 1L << 50;
 
     final int n;
@@ -225,7 +224,6 @@ final class Plain {
         }
     }
 
-    /** Long.MIN_VALUE when there is too much to try. */
     long postmanOverWays() {
         long[][] d = shortest(true);
         if (!joined(d)) {
@@ -243,33 +241,45 @@ final class Plain {
             }
         }
         List<Integer> from = new ArrayList<>();
-        List<Integer> to = new ArrayList<>();
         for (int a = 0; a < n; a++) {
             for (int k = 0; k < surplus[a]; k++) {
                 from.add(a);
             }
-            for (int k = 0; k < -surplus[a]; k++) {
-                to.add(a);
-            }
         }
-        if (from.size() > MOST_UNITS) {
-            return Long.MIN_VALUE;
+        return sum + leastTrips(d, from, surplus);
+    }
+
+    /**
+     * Tries all ends for each trip. What matters of those made before is how many ended at each
+     * place: these numbers, as digits, are where the least sum stands.
+     */
+    private long leastTrips(long[][] d, List<Integer> from, int[] surplus) {
+        int[] unit = new int[n];
+        int states = 1;
+        for (int a = 0; a < n; a++) {
+            unit[a] = states;
+            states *= 1 + Math.max(0, -surplus[a]);
         }
-        int units = from.size();
-        long[] least = new long[1 << units];
+        long[] least = new long[states];
         Arrays.fill(least, FAR);
         least[0] = 0;
-        for (int set = 0; set < 1 << units; set++) {
-            int unit = Integer.bitCount(set);
-            for (int k = 0; k < units && unit < units; k++) {
-                if ((set >> k & 1) == 0) {
-                    int more = set | 1 << k;
-                    least[more] = Math.min(least[more],
-                            least[set] + d[from.get(unit)][to.get(k)]);
+        for (int state = 0; state < states - 1; state++) {
+            int made = 0;
+            for (int a = 0; a < n; a++) {
+                made += ended(state, a, unit, surplus);
+            }
+            for (int a = 0; a < n; a++) {
+                if (ended(state, a, unit, surplus) < -surplus[a]) {
+                    int more = state + unit[a];
+                    least[more] = Math.min(least[more], least[state] + d[from.get(made)][a]);
                 }
             }
         }
-        return sum + least[(1 << units) - 1];
+        return least[states - 1];
+    }
+
+    private static int ended(int state, int a, int[] unit, int[] surplus) {
+        return state / unit[a] % (1 + Math.max(0, -surplus[a]));
     }
 
     long greatest() {
@@ -278,6 +288,28 @@ final class Plain {
         bestRound = kept;
         long s = assign();
         return t < 0 || s < 0 ? -1 : Math.max(t, s);
+    }
+
+    /** Only where every way is there. */
+    long shortestRound() {
+        List<Integer> left = new ArrayList<>();
+        for (int a = 1; a < n; a++) {
+            left.add(a);
+        }
+        return shortestRest(0, left);
+    }
+
+    private long shortestRest(int at, List<Integer> left) {
+        if (left.isEmpty()) {
+            return way[at][0];
+        }
+        long shortest = FAR;
+        for (int i = 0; i < left.size(); i++) {
+            List<Integer> rest = new ArrayList<>(left);
+            int next = rest.remove(i);
+            shortest = Math.min(shortest, way[at][next] + shortestRest(next, rest));
+        }
+        return shortest;
     }
 
     boolean certificate(int p) {

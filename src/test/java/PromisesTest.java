@@ -25,32 +25,6 @@ public final class PromisesTest {
         CHECK.end();
     }
 
-    private static void street(RoundBounds x, int a, int b, long t) {
-        x.way(a, b, t);
-        x.way(b, a, t);
-    }
-
-    /** All places in a ring, gone one way. */
-    private static RoundBounds ring(int n, long t) {
-        RoundBounds x = new RoundBounds(n);
-        for (int a = 0; a < n; a++) {
-            x.way(a, (a + 1) % n, t);
-        }
-        return x;
-    }
-
-    /** How many places there are, told by which of them way() takes. */
-    private static int places(RoundBounds x) {
-        for (int a = 0; a < 100; a++) {
-            try {
-                x.way(a, a, 1);
-            } catch (ArrayIndexOutOfBoundsException e) {
-                return a;
-            }
-        }
-        return 100;
-    }
-
     private static void newObject() {
         CHECK.due("NONE", NONE, -1);
         int[] stops = {Integer.MIN_VALUE, -1, 0, 2, 3, 4, 11, 12, 13, Integer.MAX_VALUE};
@@ -58,7 +32,7 @@ public final class PromisesTest {
         for (int i = 0; i < stops.length; i++) {
             RoundBounds x = new RoundBounds(stops[i]);
             String name = "new(" + stops[i] + ")";
-            CHECK.due(name + " places", places(x), due[i]);
+            CHECK.due(name + " places", Nets.places(x), due[i]);
             CHECK.due(name + " tree", x.tree(1), NONE);
             CHECK.due(name + " rounds", x.rounds(), 0);
             CHECK.due(name + " assign", x.assign(), NONE);
@@ -73,7 +47,7 @@ public final class PromisesTest {
     }
 
     private static void way() {
-        RoundBounds x = ring(3, 5);
+        RoundBounds x = Nets.ring(3, 5);
         int[] wrong = {-1, 3, 12, Integer.MIN_VALUE, Integer.MAX_VALUE};
         for (int w : wrong) {
             CHECK.dueThrows("way(" + w + ", 0)", () -> x.way(w, 0, 1),
@@ -112,17 +86,17 @@ public final class PromisesTest {
     }
 
     private static void tree() {
-        RoundBounds x = ring(3, 7);
+        RoundBounds x = Nets.ring(3, 7);
         CHECK.due("ring of 3", x.tree(1), 21);
         CHECK.due("brought to 1: min", x.tree(Integer.MIN_VALUE), 21);
         CHECK.due("brought to 50: max", x.tree(Integer.MAX_VALUE), 21);
         x.way(0, 1, -1);
         CHECK.due("one street at place 0", x.tree(1), NONE);
         RoundBounds y = new RoundBounds(4);
-        street(y, 0, 1, 1);
-        street(y, 0, 2, 1);
-        street(y, 0, 3, 1);
-        street(y, 1, 2, 1);
+        Nets.street(y, 0, 1, 1);
+        Nets.street(y, 0, 2, 1);
+        Nets.street(y, 0, 3, 1);
+        Nets.street(y, 1, 2, 1);
         CHECK.due("the others are in two pieces", y.tree(50), NONE);
         y.way(3, 2, 0);
         CHECK.due("a street by one way alone, of length 0", y.tree(1), 3);
@@ -134,10 +108,10 @@ public final class PromisesTest {
         }
         CHECK.due("half of an odd worth, 17, rounded up", odd.tree(50), 9);
         CHECK.due("half of an odd worth: round", odd.rounds(), 18);
-        RoundBounds zero = ring(5, 0);
+        RoundBounds zero = Nets.ring(5, 0);
         CHECK.due("all of length 0", zero.tree(50), 0);
         CHECK.due("all of length 0: round", zero.rounds(), 1);
-        RoundBounds long12 = ring(12, 1000000L);
+        RoundBounds long12 = Nets.ring(12, 1000000L);
         CHECK.due("the longest", long12.tree(50), 12000000L);
     }
 
@@ -146,7 +120,7 @@ public final class PromisesTest {
         RoundBounds x = new RoundBounds(5);
         for (int a = 0; a < 5; a++) {
             for (int b = a + 1; b < 5; b++) {
-                street(x, a, b, 10);
+                Nets.street(x, a, b, 10);
             }
         }
         Plain plain = new Plain(5);
@@ -161,18 +135,8 @@ public final class PromisesTest {
         }
     }
 
-    /** Place 3 hangs at 1 alone: its weight goes down for ever, and the worth goes up. */
-    private static RoundBounds hanging() {
-        RoundBounds x = new RoundBounds(4);
-        street(x, 0, 1, 100);
-        street(x, 0, 2, 100);
-        street(x, 1, 2, 100);
-        street(x, 1, 3, 100);
-        return x;
-    }
-
     private static void treeSteps() {
-        RoundBounds x = hanging();
+        RoundBounds x = Nets.hanging();
         // degrees: 0 has 2, 1 has 3, 2 has 2, 3 has 1: a round adds step * 2 to the next worth
         int[] steps = {16, 16, 16, 16, 8, 8, 8, 8, 4, 4, 4, 4, 2, 2, 2, 2, 1, 1, 1, 1, 1};
         long worth = 800;
@@ -188,7 +152,7 @@ public final class PromisesTest {
     }
 
     private static void rounds() {
-        RoundBounds x = hanging();
+        RoundBounds x = Nets.hanging();
         CHECK.due("rounds before any tree", x.rounds(), 0);
         x.greatest();
         x.linear(3);
@@ -205,16 +169,16 @@ public final class PromisesTest {
         x.way(3, 1, -1);
         CHECK.due("no tree any more", x.tree(7), NONE);
         CHECK.due("rounds when there was none", x.rounds(), 0);
-        street(x, 1, 3, 100);
+        Nets.street(x, 1, 3, 100);
         x.tree(3);
         CHECK.due("rounds again", x.rounds(), 3);
     }
 
     private static void assign() {
         RoundBounds x = new RoundBounds(4);
-        street(x, 0, 1, 3);
+        Nets.street(x, 0, 1, 3);
         CHECK.due("two places without a way", x.assign(), NONE);
-        street(x, 2, 3, 4);
+        Nets.street(x, 2, 3, 4);
         CHECK.due("two pairs that go to and fro", x.assign(), 14);
         x.way(1, 2, 1);
         CHECK.due("a way that leads into nothing better", x.assign(), 14);
@@ -222,20 +186,20 @@ public final class PromisesTest {
         CHECK.due("a round is cheaper", x.assign(), 9);
         RoundBounds star = new RoundBounds(12);
         for (int a = 1; a < 12; a++) {
-            street(star, 0, a, 1);
+            Nets.street(star, 0, a, 1);
         }
         CHECK.due("each has ways, but they want the same next", star.assign(), NONE);
-        CHECK.due("the longest", ring(12, 1000000L).assign(), 12000000L);
-        CHECK.due("no length at all", ring(12, 0).assign(), 0);
+        CHECK.due("the longest", Nets.ring(12, 1000000L).assign(), 12000000L);
+        CHECK.due("no length at all", Nets.ring(12, 0).assign(), 0);
     }
 
     private static void cut() {
         RoundBounds x = new RoundBounds(5);
-        street(x, 0, 1, 3);
-        street(x, 0, 2, 2);
-        street(x, 1, 2, 5);
-        street(x, 1, 3, 2);
-        street(x, 2, 3, 3);
+        Nets.street(x, 0, 1, 3);
+        Nets.street(x, 0, 2, 2);
+        Nets.street(x, 1, 2, 5);
+        Nets.street(x, 1, 3, 2);
+        Nets.street(x, 2, 3, 3);
         CHECK.due("cut(0, 3)", x.cut(0, 3), 5);
         CHECK.due("cut(3, 0)", x.cut(3, 0), 5);
         CHECK.due("cut(1, 2)", x.cut(1, 2), 9);
@@ -287,11 +251,11 @@ public final class PromisesTest {
         CHECK.due("a street of length 0 counts", z.postman(false), 0);
         CHECK.due("its ends are odd", z.pair(0, 0) * 10 + z.pair(0, 1), 1);
         RoundBounds detour = new RoundBounds(4);
-        street(detour, 0, 1, 50);
-        street(detour, 0, 2, 1);
-        street(detour, 2, 1, 1);
-        street(detour, 0, 3, 1);
-        street(detour, 3, 1, 1);
+        Nets.street(detour, 0, 1, 50);
+        Nets.street(detour, 0, 2, 1);
+        Nets.street(detour, 2, 1, 1);
+        Nets.street(detour, 0, 3, 1);
+        Nets.street(detour, 3, 1, 1);
         CHECK.due("the shortest way is not the street", detour.postman(false), 56);
     }
 
@@ -379,15 +343,15 @@ public final class PromisesTest {
 
     private static void greatest() {
         RoundBounds x = new RoundBounds(4);
-        street(x, 0, 1, 1);
-        street(x, 2, 3, 1);
+        Nets.street(x, 0, 1, 1);
+        Nets.street(x, 2, 3, 1);
         CHECK.due("an assignment, but no tree: assign", x.assign(), 4);
         CHECK.due("an assignment, but no tree", x.greatest(), NONE);
-        street(x, 1, 2, 50);
-        street(x, 3, 0, 50);
+        Nets.street(x, 1, 2, 50);
+        Nets.street(x, 3, 0, 50);
         CHECK.due("the tree is greater", x.greatest(), 102);
         CHECK.due("assign is less", x.assign(), 4);
-        RoundBounds y = ring(4, 10);
+        RoundBounds y = Nets.ring(4, 10);
         y.way(0, 2, 1);
         y.way(1, 3, 1);
         CHECK.due("the tree is less", y.tree(50) < 40, true);
@@ -399,13 +363,13 @@ public final class PromisesTest {
         z.way(2, 3, 1);
         CHECK.due("a tree, but no assignment: tree", z.tree(1), 4);
         CHECK.due("a tree, but no assignment", z.greatest(), NONE);
-        RoundBounds more = hanging();
+        RoundBounds more = Nets.hanging();
         CHECK.due("50 rounds are asked for", more.greatest(), AFTER_50_ROUNDS);
         CHECK.due("assign is less than that", more.assign(), 400);
     }
 
     private static void linear() {
-        RoundBounds x = ring(3, 7);
+        RoundBounds x = Nets.ring(3, 7);
         CHECK.due("linear(1)", x.linear(1), 21000);
         CHECK.due("linear(2)", x.linear(2), 10500);
         CHECK.due("linear(8)", x.linear(8), 2625);
@@ -417,17 +381,17 @@ public final class PromisesTest {
         CHECK.dueThrows("linear(0)", () -> x.linear(0), ArithmeticException.class);
         CHECK.due("after the throw", x.linear(1), 21000);
         CHECK.due("after the throw: rounds", x.rounds(), 0);
-        RoundBounds zero = ring(3, 0);
+        RoundBounds zero = Nets.ring(3, 0);
         CHECK.due("of 0", zero.linear(5), 0);
         CHECK.dueThrows("linear(0) of 0", () -> zero.linear(0), ArithmeticException.class);
         x.way(0, 1, -1);
         CHECK.due("linear(0) of NONE", x.linear(0), NONE);
         CHECK.due("linear(5) of NONE", x.linear(5), NONE);
-        CHECK.due("the longest", ring(12, 1000000L).linear(1), 12000000000L);
+        CHECK.due("the longest", Nets.ring(12, 1000000L).linear(1), 12000000000L);
     }
 
     private static void certificate() {
-        RoundBounds x = ring(5, 3);
+        RoundBounds x = Nets.ring(5, 3);
         // of the 24 rows only 0 1 2 3 4 has its ways
         for (int p = 0; p < 24; p++) {
             CHECK.due("ring: certificate(" + p + ")", x.certificate(p), p == 0);
@@ -453,8 +417,8 @@ public final class PromisesTest {
         CHECK.due("the first row", last.certificate(0), false);
         CHECK.due("-1 is 2147483647", last.certificate(-1), false);
         RoundBounds any = new RoundBounds(3);
-        street(any, 0, 1, 1);
-        street(any, 1, 2, 1);
+        Nets.street(any, 0, 1, 1);
+        Nets.street(any, 1, 2, 1);
         any.way(2, 0, 1);
         CHECK.due("the way home is there", any.certificate(0), true);
         CHECK.due("the way out is not", any.certificate(1), false);

@@ -1,0 +1,70 @@
+import java.io.IOException;
+import java.nio.file.Files;
+import java.nio.file.Path;
+
+/**
+ * Holds a test to the document: each check stands under words of one of its sections, which must
+ * be found there, so that the sentence leads to its test and back.
+ */
+final class Sentences {
+    private final Check check = new Check();
+    private final String[] sections;
+    private String under = "";
+    private int seenBefore = 0;
+
+    /** The second argument is the document's path. */
+    Sentences(String[] args) throws IOException {
+        String path = args.length > 1 ? args[1] : "../shared/DOC.md";
+        sections = Files.readString(Path.of(path)).split("\n## ");
+        for (int i = 0; i < sections.length; i++) {
+            sections[i] = sections[i].replaceAll("\\s+", " ");
+        }
+    }
+
+    /** What one test throws is counted under its sentence, and does not keep others from theirs. */
+    void run(Runnable test) {
+        try {
+            test.run();
+        } catch (RuntimeException e) {
+            check.due(under + "a call threw", e.toString(), "nothing");
+        }
+    }
+
+    void says(String heading, String words) {
+        dueSomething();
+        under = heading + " '" + words + "': ";
+        boolean found = false;
+        for (String section : sections) {
+            found |= section.startsWith(heading) && section.contains(words);
+        }
+        check.due(under + "stands in the document", found, true);
+        seenBefore = check.seen();
+    }
+
+    void due(String call, long got, long want) {
+        check.due(under + call, got, want);
+    }
+
+    void due(String call, boolean got, boolean want) {
+        check.due(under + call, got, want);
+    }
+
+    void due(String call, String got, String want) {
+        check.due(under + call, got, want);
+    }
+
+    void dueThrows(String call, Runnable made, Class<? extends RuntimeException> want) {
+        check.dueThrows(under + call, made, want);
+    }
+
+    void end() {
+        dueSomething();
+        check.end();
+    }
+
+    private void dueSomething() {
+        if (!under.isEmpty() && check.seen() == seenBefore) {
+            check.due(under + "is tested", false, true);
+        }
+    }
+}

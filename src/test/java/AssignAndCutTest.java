@@ -16,9 +16,11 @@ public final class AssignAndCutTest {
         document.run(test::eachGetsAnotherOne);
         document.run(test::eachIsTheNextOfOne);
         document.run(test::theSumIsLeast);
+        document.run(test::theSumOfWhatIsAssigned);
         document.run(test::noneWhenItCannotBe);
         document.run(test::streetsAreAsWideAsLong);
         document.run(test::zeroIfParted);
+        document.run(test::theCutBetweenTwoPlaces);
         document.run(test::noneWhenNotThereOrTheSame);
         document.end();
     }
@@ -64,6 +66,15 @@ public final class AssignAndCutTest {
         document.due("three have two rounds", there.assign(), 14);
     }
 
+    /** Against a reading that tries every choice. */
+    private void theSumOfWhatIsAssigned() {
+        document.says("Promise 5", "The sum of what is ASSIGNED;");
+        for (int run = 0; run < 300; run++) {
+            Made.Net net = Made.net(run, 3 + run % 10, 20 + run % 81);
+            document.due("run " + run + ": assign()", net.x.assign(), net.plain.assign());
+        }
+    }
+
     private void noneWhenItCannotBe() {
         document.says("Promise 5", "NONE when it cannot be.");
         for (int n = 3; n <= 12; n++) {
@@ -103,8 +114,9 @@ public final class AssignAndCutTest {
     }
 
     private void streetsAreAsWideAsLong() {
-        document.says("Terms", "streets are as wide as they are long; the least sum of widths of "
-                + "streets whose taking away parts the one from the other");
+        document.says("Terms", "A CUT between two places: streets are as wide as they are long; "
+                + "the least sum of widths of streets whose taking away parts the one from the "
+                + "other");
         RoundBounds x = Nets.of(5, new int[][] {{0, 1, 3}, {0, 2, 2}, {1, 2, 5}, {1, 3, 2},
             {2, 3, 3}});
         dueCut(x, 0, 3, 5);
@@ -149,6 +161,21 @@ public final class AssignAndCutTest {
         dueCut(two, 2, 3, 0);
         dueCut(two, 0, 2, 5);
         dueCut(two, 3, 5, 7);
+    }
+
+    /** Against a reading that tries to put each place on either side. */
+    private void theCutBetweenTwoPlaces() {
+        document.says("Promise 6", "The CUT between two places;");
+        for (int run = 0; run < 60; run++) {
+            int n = 3 + run % 7;
+            Made.Net net = Made.net(run, n, 15 + run);
+            for (int i = 0; i < n; i++) {
+                for (int what = 0; what < n; what++) {
+                    document.due("run " + run + ": cut(" + i + ", " + what + ")",
+                            net.x.cut(i, what), net.plain.cut(i, what));
+                }
+            }
+        }
     }
 
     private void noneWhenNotThereOrTheSame() {

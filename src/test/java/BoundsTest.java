@@ -14,7 +14,10 @@ public final class BoundsTest {
     public static void main(String[] args) throws IOException {
         Sentences document = new Sentences(args);
         BoundsTest test = new BoundsTest(document);
+        document.run(test::boundsBelowRounds);
+        document.run(test::eachWithWhatShowsIt);
         document.run(test::greatestOfBoth);
+        document.run(test::asABoundForRounds);
         document.run(test::with50RoundsAndNow);
         document.run(test::noneWhenOneOfThemIs);
         document.run(test::aThousandTimesThat);
@@ -22,12 +25,63 @@ public final class BoundsTest {
         document.run(test::noneWhenGreatestIs);
         document.run(test::throwsWhenSideIs0);
         document.run(test::aLinearThatThrowsChangesNothing);
+        document.run(test::aRoundOfAllPlaces);
         document.run(test::pPicksTheRowFrom0);
         document.run(test::withoutItsSignBit);
         document.run(test::rowsInTheirOrderByPlaces);
         document.run(test::hasAllItsWays);
         document.run(test::notShorterThanBothBounds);
         document.end();
+    }
+
+    private void boundsBelowRounds() {
+        document.says("What it is", "Bounds below rounds: trees with one link more and weights "
+                + "that move, the cheapest choice of a way out of each place, the least cuts, and "
+                + "the postman's way over all streets");
+        // four streets in a ring: round them it is 36, and twice to and fro it is 30
+        RoundBounds x = Nets.of(4, new int[][] {{0, 1, 7}, {1, 2, 10}, {2, 3, 8}, {3, 0, 11},
+            {1, 0, 7}, {2, 1, 10}, {3, 2, 8}, {0, 3, 11}});
+        document.due("trees with one link more: tree(1)", x.tree(1), 36);
+        document.due("weights that move: tree(50)", x.tree(50), 36);
+        document.due("the cheapest choice of a way out of each: assign()", x.assign(), 30);
+        document.due("the least cut: cut(0, 2)", x.cut(0, 2), 7 + 8);
+        document.due("the postman's way: postman(false)", x.postman(false), 36);
+        document.due("the postman's way: postman(true)", x.postman(true), 72);
+        for (int run = 0; run < 100; run++) {
+            Made.Net net = Made.net(run, 3 + run % 6, 100);
+            long shortest = net.plain.shortestRound();
+            document.due("run " + run + ": tree(50)", net.x.tree(50) <= shortest, true);
+            document.due("run " + run + ": assign()", net.x.assign() <= shortest, true);
+        }
+    }
+
+    /** The round that rounds() tells is enough for the bound; each real round holds it. */
+    private void eachWithWhatShowsIt() {
+        document.says("What it is", "each with what shows it.");
+        for (int run = 0; run < 60; run++) {
+            Made.Net net = Made.net(run, 3 + run % 3, 100);
+            long bound = net.x.tree(50);
+            int best = net.x.rounds();
+            document.due("run " + run + ": rounds()", best >= 1 && best <= 50, true);
+            document.due("run " + run + ": tree(rounds())", net.x.tree(best), bound);
+            document.due("run " + run + ": rounds() of it", net.x.rounds(), best);
+            for (int p = 0; p < rowsOf(net.plain.n); p++) {
+                document.due("run " + run + ": certificate(" + p + ")", net.x.certificate(p),
+                        true);
+            }
+        }
+    }
+
+    private void asABoundForRounds() {
+        document.says("Promise 9", "tell now, as a bound for rounds");
+        for (int run = 0; run < 100; run++) {
+            Made.Net net = Made.net(run, 3 + run % 6, 100);
+            long shortest = net.plain.shortestRound();
+            document.due("run " + run + ": greatest() is at most " + shortest,
+                    net.x.greatest() <= shortest, true);
+            document.due("run " + run + ": greatest()", net.x.greatest(), net.plain.greatest());
+        }
+        document.due("a ring is its own bound", Nets.ring(7, 5).greatest(), 35);
     }
 
     private void greatestOfBoth() {
@@ -199,6 +253,27 @@ public final class BoundsTest {
         int picked = (p & Integer.MAX_VALUE) % rowsOf(n);
         document.due(n + " places, row " + index + ", certificate(" + p + ")", x.certificate(p),
                 picked == index);
+    }
+
+    private void aRoundOfAllPlaces() {
+        document.says("Promise 11", "Whether a round of all places in a row that is told by p");
+        for (int n = 3; n <= 12; n++) {
+            document.due(n + " places: a ring", Nets.ring(n, 5).certificate(0), true);
+            for (int left = 0; left < n; left++) {
+                RoundBounds x = Nets.full(n, 5);
+                for (int a = 0; a < n; a++) {
+                    x.way(a, left, -1);
+                    x.way(left, a, -1);
+                }
+                for (int p = 0; p < 30; p++) {
+                    document.due(n + " places: " + left + " is left out, certificate(" + p + ")",
+                            x.certificate(p), false);
+                }
+            }
+            RoundBounds open = Nets.ring(n, 5);
+            open.way(n - 1, 0, -1);
+            document.due(n + " places: no way home", open.certificate(0), false);
+        }
     }
 
     private void pPicksTheRowFrom0() {

@@ -1,96 +1,143 @@
+import java.io.IOException;
 import java.lang.reflect.Constructor;
+import java.lang.reflect.Executable;
 import java.lang.reflect.Field;
 import java.lang.reflect.Method;
 import java.lang.reflect.Modifier;
 import java.nio.file.Files;
 import java.nio.file.Path;
 import java.util.Set;
+import java.util.StringJoiner;
 import java.util.TreeSet;
 
-/** The public face is the document's and nothing more; the source keeps to plain Java. */
+/** The public face is the document's, each member as it stands there, and no other. */
 public final class FaceTest {
-    private static final Check CHECK = new Check();
+    private static final String FACE = "The public face";
 
-    private FaceTest() {
+    private final Sentences document;
+    private final Document text;
+    private final String source;
+
+    private FaceTest(Sentences document, Document text, String source) {
+        this.document = document;
+        this.text = text;
+        this.source = source;
     }
 
-    public static void main(String[] args) throws Exception {
-        face();
-        nested();
-        source(args.length > 0 ? args[0] : "src/main/java/RoundBounds.java");
-        CHECK.end();
+    public static void main(String[] args) throws IOException {
+        Sentences document = new Sentences(args);
+        String path = args.length > 0 ? args[0] : "src/main/java/RoundBounds.java";
+        FaceTest test = new FaceTest(document, new Document(args), Files.readString(Path.of(path)));
+        document.run(test::aPublicFinalClass);
+        document.run(test::noneIsMinus1);
+        document.run(test::eachMemberAndNoOther);
+        document.run(test::membersAsTheyAreWritten);
+        document.end();
     }
 
-    private static void face() {
-        Set<String> due = new TreeSet<>(Set.of(
-                "public static final int RoundBounds.NONE",
-                "public RoundBounds(int)",
-                "public void RoundBounds.way(int,int,long) "
-                        + "throws java.lang.ArrayIndexOutOfBoundsException",
-                "public long RoundBounds.tree(int)",
-                "public int RoundBounds.rounds()",
-                "public long RoundBounds.assign()",
-                "public long RoundBounds.cut(int,int)",
-                "public long RoundBounds.postman(boolean)",
-                "public int RoundBounds.pair(int,int)",
-                "public long RoundBounds.greatest()",
-                "public long RoundBounds.linear(int) throws java.lang.ArithmeticException",
-                "public boolean RoundBounds.certificate(int)"));
-        Set<String> got = new TreeSet<>();
+    private void aPublicFinalClass() {
+        document.says("The public face", "public final class RoundBounds {");
+        int kind = RoundBounds.class.getModifiers();
+        document.due("public", Modifier.isPublic(kind), true);
+        document.due("final", Modifier.isFinal(kind), true);
+        document.due("a class above it", RoundBounds.class.getSuperclass().getName(),
+                "java.lang.Object");
+        document.due("interfaces", RoundBounds.class.getInterfaces().length, 0);
+        document.due("package", RoundBounds.class.getPackageName(), "");
+    }
+
+    /** Read at run time, since the compiler copies a constant into those that use it. */
+    private void noneIsMinus1() {
+        document.says("The public face", "public static final int NONE = -1;");
+        long none = 0;
+        try {
+            none = RoundBounds.class.getField("NONE").getInt(null);
+        } catch (ReflectiveOperationException e) {
+            document.due("NONE", e.toString(), "-1");
+        }
+        document.due("NONE", none, -1);
+    }
+
+    private void eachMemberAndNoOther() {
+        document.says("The public face", "public RoundBounds(int stops); public void way(int a, "
+                + "int b, long t) throws ArrayIndexOutOfBoundsException; public long tree(int "
+                + "rounds); public int rounds(); public long assign(); public long cut(int i, "
+                + "int what); public long postman(boolean directed); public int pair(int i, int "
+                + "side); public long greatest(); public long linear(int side) throws "
+                + "ArithmeticException; public boolean certificate(int p); }");
+        Set<String> due = new TreeSet<>();
+        for (String line : text.block(FACE)) {
+            if (line.endsWith(";")) {
+                // of an argument the type alone, of a constant no value
+                due.add(line.replaceAll("(\\w+) \\w+(?=[,)])", "$1").replaceAll("( = .*)?;", ""));
+            }
+        }
+        document.due("members", seenFromOutside().toString(), due.toString());
+        document.due("how many members", due.size(), 12);
+    }
+
+    private static Set<String> seenFromOutside() {
+        Set<String> seen = new TreeSet<>();
         for (Field f : RoundBounds.class.getDeclaredFields()) {
             if (!Modifier.isPrivate(f.getModifiers())) {
-                got.add(f.toString());
+                seen.add(Modifier.toString(f.getModifiers()) + " "
+                        + f.getType().getSimpleName() + " " + f.getName());
             }
         }
         for (Constructor<?> c : RoundBounds.class.getDeclaredConstructors()) {
             if (!Modifier.isPrivate(c.getModifiers())) {
-                got.add(c.toString());
+                seen.add(written(c, "RoundBounds"));
             }
         }
         for (Method m : RoundBounds.class.getDeclaredMethods()) {
             if (!Modifier.isPrivate(m.getModifiers())) {
-                got.add(m.toString());
+                seen.add(written(m, m.getReturnType().getSimpleName() + " " + m.getName()));
             }
         }
-        CHECK.due("face", got.toString(), due.toString());
-        int kind = RoundBounds.class.getModifiers();
-        CHECK.due("public and final", Modifier.isPublic(kind) && Modifier.isFinal(kind), true);
-        CHECK.due("no class above it", RoundBounds.class.getSuperclass().getName(),
-                "java.lang.Object");
-        CHECK.due("no package", RoundBounds.class.getPackageName(), "");
-    }
-
-    private static void nested() {
-        Set<String> face = new TreeSet<>();
-        for (Method m : RoundBounds.class.getDeclaredMethods()) {
-            if (Modifier.isPublic(m.getModifiers())) {
-                face.add(m.getName());
-            }
-        }
-        CHECK.due("at most twelve classes",
-                RoundBounds.class.getDeclaredClasses().length < 12, true);
         for (Class<?> c : RoundBounds.class.getDeclaredClasses()) {
-            CHECK.due(c + " is private and static", Modifier.isPrivate(c.getModifiers())
-                    && Modifier.isStatic(c.getModifiers()), true);
-            for (Method m : c.getDeclaredMethods()) {
-                CHECK.due(m + " bears a name of the face", face.contains(m.getName()), false);
-                CHECK.due(m + " has few parameters", m.getParameterCount() <= 7, true);
+            if (Modifier.isPublic(c.getModifiers()) || Modifier.isProtected(c.getModifiers())) {
+                seen.add(c.toString());
             }
         }
+        return seen;
     }
 
-    private static void source(String path) throws Exception {
-        String text = Files.readString(Path.of(path));
-        String[] never = {"->", "::", "catch", "finally", "synchronized", "assert ", "System.",
-            "Random", "Thread", "Exact(", "package ", "static {", "java.io", "java.time"};
-        for (String word : never) {
-            CHECK.due("source holds " + word, text.contains(word), false);
+    private static String written(Executable member, String name) {
+        StringJoiner types = new StringJoiner(", ", "(", ")");
+        for (Class<?> type : member.getParameterTypes()) {
+            types.add(type.getSimpleName());
         }
-        for (String line : text.split("\n")) {
-            if (line.startsWith("import ")) {
-                CHECK.due("import", line, "import java.util.Arrays;");
+        StringJoiner thrown = new StringJoiner(", ");
+        for (Class<?> type : member.getExceptionTypes()) {
+            thrown.add(type.getSimpleName());
+        }
+        return Modifier.toString(member.getModifiers()) + " " + name + types
+                + (thrown.length() == 0 ? "" : " throws " + thrown);
+    }
+
+    /** The names of the arguments are seen in the source alone. */
+    private void membersAsTheyAreWritten() {
+        document.says("The public face", "public long tree(int rounds);");
+        for (String line : text.block(FACE)) {
+            if (line.endsWith(");")) {
+                String head = "\n    " + line.replace(";", " {") + "\n";
+                document.due(line + " is written so", source.contains(head), true);
             }
-            CHECK.due("a line of at most 100: " + line, line.length() <= 100, true);
         }
+        dueMemberOfEachPromise();
+    }
+
+    private void dueMemberOfEachPromise() {
+        int promises = 0;
+        for (String section : text.names()) {
+            for (String member : text.code(section)) {
+                if (section.startsWith("Promise ")) {
+                    promises++;
+                    document.due(section + ": " + member,
+                            text.block(FACE).contains("public " + member + ";"), true);
+                }
+            }
+        }
+        document.due("promises with a member", promises, 11);
     }
 }

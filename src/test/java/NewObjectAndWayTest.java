@@ -18,6 +18,8 @@ public final class NewObjectAndWayTest {
         NewObjectAndWayTest test = new NewObjectAndWayTest(document);
         document.run(test::soManyPlacesBroughtTo3To12);
         document.run(test::noWays);
+        document.run(test::placesAre0ToNLess1);
+        document.run(test::aWayLeadsFromOneToAnother);
         document.run(test::noWayAtFirst);
         document.run(test::objectsAreApart);
         document.run(test::aWayTakesSoLong);
@@ -81,8 +83,49 @@ public final class NewObjectAndWayTest {
         }
     }
 
+    private void placesAre0ToNLess1() {
+        document.says("Terms", "PLACES are 0 .. n - 1.");
+        for (int n = 3; n <= 12; n++) {
+            RoundBounds x = new RoundBounds(n);
+            for (int a = -1; a <= n; a++) {
+                int place = a;
+                int other = a == 0 ? 1 : 0;
+                if (a == -1 || a == n) {
+                    document.dueThrows(n + " places: way(" + a + ", 0)",
+                            () -> x.way(place, 0, 5), ArrayIndexOutOfBoundsException.class);
+                    document.due(n + " places: cut(" + a + ", 0)", x.cut(a, 0), NONE);
+                } else {
+                    x.way(a, other, 5);
+                    document.due(n + " places: cut(" + a + ", " + other + ")",
+                            x.cut(a, other), 5);
+                    x.way(a, other, -1);
+                }
+            }
+        }
+    }
+
+    /** Of three places there are two rounds: one goes over three ways, the other over the rest. */
+    private void aWayLeadsFromOneToAnother() {
+        document.says("Terms", "A WAY from one to another takes so long");
+        RoundBounds x = Nets.of(3, new int[][] {{0, 1, 1}, {1, 2, 10}, {2, 0, 100}});
+        document.due("0 1 2 alone", x.certificate(0), true);
+        document.due("0 2 1 is not there", x.certificate(1), false);
+        document.due("0 1 2 alone: assign()", x.assign(), 111);
+        x.way(0, 2, 7);
+        x.way(2, 1, 20);
+        document.due("0 2 1 has one way less", x.certificate(1), false);
+        x.way(1, 0, 30);
+        document.due("0 2 1 is there too", x.certificate(1), true);
+        document.due("0 2 1 is shorter: assign()", x.assign(), 57);
+        document.due("each way is gone: postman(true)", x.postman(true), 168);
+        x.way(0, 1, -1);
+        document.due("no way from 0 to 1", x.certificate(0), false);
+        document.due("a way from 1 to 0", x.certificate(1), true);
+        document.due("no way from 0 to 1: assign()", x.assign(), 57);
+    }
+
     private void noWayAtFirst() {
-        document.says("Terms", "takes so long, or there is none (at first)");
+        document.says("Terms", "takes so long, or there is none (at first).");
         int[][] rows = {{1, 2, 3}, {1, 3, 2}, {2, 1, 3}, {2, 3, 1}, {3, 1, 2}, {3, 2, 1}};
         for (int a = 0; a < 4; a++) {
             for (int b = 0; b < 4; b++) {
@@ -128,9 +171,11 @@ public final class NewObjectAndWayTest {
         document.due("a second object: rounds()", second.rounds(), 0);
         document.due("a second object: pairs", Nets.pairs(second), "");
         document.due("a second object: assign()", second.assign(), NONE);
-        second.way(0, 3, 1);
+        for (int a = 0; a < 4; a++) {
+            second.way(a, (a + 1) % 4, 1);
+        }
         second.tree(1);
-        second.postman(false);
+        document.due("a second object: postman(false)", second.postman(false), 4);
         document.due("the first object is as before", Nets.answers(first, 4), before);
     }
 

@@ -139,7 +139,7 @@ final class Plain {
         return least;
     }
 
-    private long[][] shortest(boolean directed) {
+    long[][] shortest(boolean directed) {
         long[][] d = new long[n][n];
         for (int a = 0; a < n; a++) {
             for (int b = 0; b < n; b++) {
@@ -177,6 +177,27 @@ final class Plain {
             }
         }
         return false;
+    }
+
+    long allStreets() {
+        long sum = 0;
+        for (int a = 0; a < n; a++) {
+            for (int b = a + 1; b < n; b++) {
+                sum += Math.max(0, street(a, b));
+            }
+        }
+        return sum;
+    }
+
+    /** The places of odd degree, as bits. */
+    int oddPlaces() {
+        int odd = 0;
+        for (int a = 0; a < n; a++) {
+            for (int b = 0; b < n; b++) {
+                odd ^= a != b && street(a, b) >= 0 ? 1 << a : 0;
+            }
+        }
+        return odd;
     }
 
     long postmanOverStreets() {

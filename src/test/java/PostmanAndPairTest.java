@@ -13,20 +13,70 @@ public final class PostmanAndPairTest {
     public static void main(String[] args) throws IOException {
         Sentences document = new Sentences(args);
         PostmanAndPairTest test = new PostmanAndPairTest(document);
+        document.run(test::theLeastWayOverEachStreet);
+        document.run(test::thePostmansWay);
+        document.run(test::streetsAreGoneEitherWay);
         document.run(test::sumOfAllAndLeastPairing);
         document.run(test::sumOfAllAndLeastWaysAgain);
+        document.run(test::minus1IsToldWhenThereIsNone);
         document.run(test::refusesStreetsInTwoPieces);
         document.run(test::placesWithoutAStreetDoNotCount);
         document.run(test::zeroWithoutAnyStreet);
         document.run(test::refusesWaysThatDoNotLeadBack);
         document.run(test::placesWithoutAWayDoNotCount);
         document.run(test::pairsByTheLesserPlace);
+        document.run(test::theLesserPlaceAndTheOtherOne);
         document.run(test::pairsOfTheLatestThatWasNotNone);
         document.run(test::noneWhenThereIsNoSuchPair);
         document.run(test::noneWhenSideIsNoneOfThese);
         document.run(test::leastPlaceWithTheLeastOne);
         document.run(test::thenTheLeastOfThoseLeft);
         document.end();
+    }
+
+    /** Against a search for the way itself, step by step, that knows of no pairs and trips. */
+    private void theLeastWayOverEachStreet() {
+        document.says("Terms", "POSTMAN: the least way (places and streets as often as need be) "
+                + "that goes over each street at least once and ends where it began.");
+        int found = 0;
+        for (int run = 0; run < 400; run++) {
+            int n = 3 + run % 4;
+            Made.Net net = Made.few(run, n, 1 + run % 9);
+            document.due("run " + run + ": postman(false)", net.x.postman(false),
+                    Walks.overStreets(net.plain));
+            long directed = Walks.overWays(net.plain);
+            document.due("run " + run + ": postman(true)", net.x.postman(true), directed);
+            found += directed == NONE ? 0 : 1;
+        }
+        document.due("many of these have a directed way", found > 100, true);
+    }
+
+    private void thePostmansWay() {
+        document.says("Promise 7", "The POSTMAN's way.");
+        for (int run = 0; run < 100; run++) {
+            int n = 3 + run % 6;
+            Made.Net net = Made.net(run, n, 20 + run % 81);
+            document.due("run " + run + ": postman(false)", net.x.postman(false),
+                    net.plain.postmanOverStreets());
+            document.due("run " + run + ": postman(true)", net.x.postman(true),
+                    net.plain.postmanOverWays());
+        }
+    }
+
+    private void streetsAreGoneEitherWay() {
+        document.says("Terms", "Both ways (not DIRECTED): streets with their lengths are gone "
+                + "either way");
+        int[][] streets = {{0, 1, 3}, {1, 2, 5}, {2, 3, 7}, {3, 0, 11}, {0, 2, 13}, {3, 4, 2}};
+        // 0, 2 and 3 have three streets and 4 has one: 0 with 2 over 1 for 8, 3 with 4 for 2
+        for (int turned = 0; turned < 1 << streets.length; turned++) {
+            RoundBounds x = new RoundBounds(5);
+            for (int i = 0; i < streets.length; i++) {
+                boolean back = (turned >> i & 1) == 1;
+                x.way(streets[i][back ? 1 : 0], streets[i][back ? 0 : 1], streets[i][2]);
+            }
+            duePost("told from other ends, " + turned, x, 41 + 8 + 2, "0-2 3-4");
+            document.due("told once, DIRECTED, " + turned, x.postman(true), NONE);
+        }
     }
 
     private void sumOfAllAndLeastPairing() {
@@ -45,6 +95,8 @@ public final class PostmanAndPairTest {
         RoundBounds path = Nets.of(4, new int[][] {{0, 1, 10}, {1, 2, 9}, {2, 3, 10}, {0, 2, 99},
             {1, 3, 99}, {0, 3, 99}});
         duePost("the nearest two do not go together", path, 326 + 20, "0-1 2-3");
+        duePost("the least place does not go with the next", four(9, 6, 5, 5, 6, 9), 40 + 10,
+                "0-3 1-2");
         RoundBounds lesser = new RoundBounds(3);
         lesser.way(0, 1, 7);
         lesser.way(1, 0, 5);
@@ -110,6 +162,22 @@ public final class PostmanAndPairTest {
             document.due(n + " places, " + trips + " trips", x.postman(true),
                     once + trips * 1000 + stepsToAndFro);
         }
+    }
+
+    private void minus1IsToldWhenThereIsNone() {
+        document.says("Terms", "REFUSALS: -1 is told when there is none: no linked tree, no "
+                + "assignment, streets in two pieces");
+        document.due("NONE", NONE, -1);
+        RoundBounds x = Nets.of(5, new int[][] {{0, 1, 4}, {2, 3, 4}});
+        document.due("no linked tree: tree(1)", x.tree(1), -1);
+        document.due("no linked tree: tree(50)", x.tree(50), -1);
+        document.due("no assignment: assign()", x.assign(), -1);
+        document.due("streets in two pieces: postman(false)", x.postman(false), -1);
+        document.due("streets in two pieces: postman(true)", x.postman(true), -1);
+        document.due("no such place: cut(0, 5)", x.cut(0, 5), -1);
+        document.due("no such pair: pair(0, 0)", x.pair(0, 0), -1);
+        document.due("neither tree nor assignment: greatest()", x.greatest(), -1);
+        document.due("neither tree nor assignment: linear(2)", x.linear(2), -1);
     }
 
     private void refusesStreetsInTwoPieces() {
@@ -241,6 +309,32 @@ public final class PostmanAndPairTest {
         for (int i = 0; i < due.length; i++) {
             document.due("pair(" + i + ", 0)", x.pair(i, 0), due[i][0]);
             document.due("pair(" + i + ", 1)", x.pair(i, 1), due[i][1]);
+        }
+    }
+
+    /** Each place of odd degree is in one pair, and the ways between them are what is added. */
+    private void theLesserPlaceAndTheOtherOne() {
+        document.says("Promise 8", "its lesser place (side = 0), the other one (1)");
+        for (int run = 0; run < 200; run++) {
+            int n = 3 + run % 10;
+            Made.Net net = Made.net(run, n, 25 + run % 76);
+            long way = net.x.postman(false);
+            int before = -1;
+            int paired = 0;
+            long again = 0;
+            for (int i = 0; net.x.pair(i, 0) != NONE; i++) {
+                int lesser = net.x.pair(i, 0);
+                int other = net.x.pair(i, 1);
+                document.due("run " + run + ", pair " + i + " is in order",
+                        before < lesser && lesser < other && other < n, true);
+                before = lesser;
+                paired |= 1 << lesser | 1 << other;
+                again += net.plain.shortest(false)[lesser][Math.max(0, other)];
+            }
+            if (way != NONE) {
+                document.due("run " + run + ", the pairs", paired, net.plain.oddPlaces());
+                document.due("run " + run + ", the way", way, net.plain.allStreets() + again);
+            }
         }
     }
 

@@ -1,6 +1,4 @@
 import java.io.IOException;
-import java.nio.file.Files;
-import java.nio.file.Path;
 
 /**
  * Holds a test to the document: each check stands under words of one of its sections, which must
@@ -8,17 +6,12 @@ import java.nio.file.Path;
  */
 final class Sentences {
     private final Check check = new Check();
-    private final String[] sections;
+    private final Document document;
     private String under = "";
     private int seenBefore = 0;
 
-    /** The second argument is the document's path. */
     Sentences(String[] args) throws IOException {
-        String path = args.length > 1 ? args[1] : "../shared/DOC.md";
-        sections = Files.readString(Path.of(path)).split("\n## ");
-        for (int i = 0; i < sections.length; i++) {
-            sections[i] = sections[i].replaceAll("\\s+", " ");
-        }
+        document = new Document(args);
     }
 
     /** What one test throws is counted under its sentence, and does not keep others from theirs. */
@@ -30,14 +23,10 @@ final class Sentences {
         }
     }
 
-    void says(String heading, String words) {
+    void says(String section, String words) {
         dueSomething();
-        under = heading + " '" + words + "': ";
-        boolean found = false;
-        for (String section : sections) {
-            found |= section.startsWith(heading) && section.contains(words);
-        }
-        check.due(under + "stands in the document", found, true);
+        under = section + " '" + words + "': ";
+        check.due(under + "stands in the document", document.says(section, words), true);
         seenBefore = check.seen();
     }
 

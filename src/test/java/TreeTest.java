@@ -19,10 +19,14 @@ public final class TreeTest {
         document.run(test::noneWithoutALinkedTree);
         document.run(test::roundedUp);
         document.run(test::weightsAre0AtFirst);
+        document.run(test::priceIsTwiceTheLengthAndBothWeights);
+        document.run(test::theCheapestThatCloseNoRing);
         document.run(test::ofSeveralTheLesserEnd);
         document.run(test::ofSeveralThenTheGreaterEnd);
         document.run(test::theLesserEndCountsFirst);
         document.run(test::atPlace0ThoseToTheLesserEnds);
+        document.run(test::degreeIsHowManyEndThere);
+        document.run(test::worthIsTheSumOfPrices);
         document.run(test::bestIsAboveAllBefore);
         document.run(test::steps);
         document.run(test::noRoundIsShorter);
@@ -108,20 +112,60 @@ public final class TreeTest {
         dueTree("worths up to 16", x, 17, 8, 1);
         dueTree("a worth of 17", x, 18, 9, 18);
         dueTree("a worth of 17", x, 50, 9, 18);
+        dueTree("the second is not the best", Nets.full(5, 10), 2, 50, 1);
         RoundBounds even = Nets.ring(3, 0);
         even.way(0, 1, 1);
         dueTree("a worth of 2", even, 50, 1, 1);
     }
 
     private void weightsAre0AtFirst() {
-        document.says("Terms", "Each place has a WEIGHT (a whole number, 0 at first in each "
-                + "asking).");
+        document.says("Terms", "TREES. Each place has a WEIGHT (a whole number, 0 at first in "
+                + "each asking).");
         RoundBounds x = Nets.hanging();
         dueTree("hanging", x, 50, HANGING_50, 50);
         dueTree("hanging, asked anew", x, 1, 400, 1);
         x.greatest();
         dueTree("hanging, after greatest()", x, 2, 416, 2);
         document.due("greatest() after tree(2)", x.greatest(), HANGING_50);
+    }
+
+    /**
+     * As in the hanging net, 1 weighs 16 after the first round and 3 weighs -16. The next has
+     * 1-3 200, 0-1 216, 0-2 200, and 1-2 for 216 or 2-3 for twice its length less 16.
+     */
+    private void priceIsTwiceTheLengthAndBothWeights() {
+        document.says("Terms", "The PRICE of a street is twice its length and the weights of its "
+                + "two ends together.");
+        for (int length = 101; length <= 130; length++) {
+            RoundBounds x = Nets.hanging();
+            Nets.street(x, 2, 3, length);
+            dueTree("2-3 of " + length, x, 1, 400, 1);
+            dueTree("2-3 of " + length, x, 2, 308 + Math.min(108, length - 8), 2);
+        }
+    }
+
+    private void theCheapestThatCloseNoRing() {
+        document.says("Terms", "A LINKED TREE: a tree of streets over all places but 0, made by "
+                + "taking, again and again, of the streets between two of these that close no "
+                + "ring the one with the least price");
+        dueTree("1-3 closes a ring", Nets.of(4, new int[][] {{1, 2, 1}, {2, 3, 2}, {1, 3, 3},
+            {0, 1, 50}, {0, 2, 60}, {0, 3, 70}}), 1, 1 + 2 + 50 + 60, 1);
+        dueTree("what 0 joins is not joined", Nets.of(4, new int[][] {{0, 1, 1}, {0, 2, 1},
+            {0, 3, 1}, {1, 2, 100}, {2, 3, 100}, {1, 3, 200}}), 1, 1 + 1 + 100 + 100, 1);
+        // the three cheapest are a ring, so 3-4 comes, and then 2-5, not 1-5 nor 4-5
+        dueTree("a ring of the cheapest", Nets.of(6, new int[][] {{1, 2, 1}, {2, 3, 1}, {1, 3, 1},
+            {1, 4, 9}, {3, 4, 5}, {1, 5, 8}, {2, 5, 7}, {4, 5, 8}, {0, 4, 20}, {0, 5, 30}}), 1,
+            1 + 1 + 5 + 7 + 20 + 30, 1);
+        // 1-2 and 3-4 are joined by 2-3, so that 1-4 closes a ring
+        dueTree("a ring of two pieces", Nets.of(6, new int[][] {{1, 2, 1}, {3, 4, 1}, {2, 3, 2},
+            {1, 4, 3}, {4, 5, 9}, {0, 1, 20}, {0, 5, 30}}), 1, 1 + 1 + 2 + 9 + 20 + 30, 1);
+        for (int n = 4; n <= 12; n++) {
+            RoundBounds full = Nets.full(n, 1000);
+            for (int a = 1; a + 1 < n; a++) {
+                full.way(a + 1, a, a);
+            }
+            dueTree("a chain of " + n, full, 1, (n - 1) * (n - 2) / 2 + 2000, 1);
+        }
     }
 
     /**
@@ -166,16 +210,80 @@ public final class TreeTest {
      * 3-4 40, 1-2 120, 2-3 152, 0-4 24, 0-2 56. (With 0-4 the next would have 376.)
      */
     private void atPlace0ThoseToTheLesserEnds() {
-        document.says("Terms", "the two streets at place 0 with the least prices, of several "
-                + "those to the lesser ends");
+        document.says("Terms", "and the two streets at place 0 with the least prices, of "
+                + "several those to the lesser ends");
         RoundBounds x = Nets.of(5, new int[][] {{0, 1, 60}, {0, 2, 20}, {0, 3, 20}, {0, 4, 20},
             {1, 2, 60}, {2, 3, 60}, {3, 4, 20}});
         dueTree("0-2 and 0-3", x, 1, 180, 1);
         dueTree("0-2 and 0-3", x, 2, 196, 2);
     }
 
+    /**
+     * All but 0 hang at one, which has n - 2 streets; two have two, all others one. The second
+     * worth is 200 n and, for each place, its degree times (its degree less 2) times 16.
+     */
+    private void degreeIsHowManyEndThere() {
+        document.says("Terms", "A place's DEGREE is how many of its streets end there.");
+        for (int n = 5; n <= 12; n++) {
+            for (int hub = 1; hub < n; hub++) {
+                RoundBounds x = new RoundBounds(n);
+                for (int a = 1; a < n; a++) {
+                    x.way(hub, a, 100);
+                }
+                x.way(0, hub == 1 ? 2 : 1, 100);
+                x.way(hub == n - 1 ? n - 2 : n - 1, 0, 100);
+                dueTree("a star of " + n, x, 1, 100L * n, 1);
+                dueTree("a star of " + n, x, 2, 100L * n + 8L * (n - 4) * (n - 3), 2);
+            }
+        }
+    }
+
+    /**
+     * Where there is but one linked tree, its worth is twice all lengths, and each place's weight
+     * as often as its degree, less two: the weight being (its degree less 2) times all steps. (The
+     * weights' sum is always 0, as a linked tree has as many streets as there are places.)
+     */
+    private void worthIsTheSumOfPrices() {
+        document.says("Terms", "Its WORTH is the sum of its prices, less twice the sum of all "
+                + "weights of places.");
+        long[] state = {31L};
+        for (int run = 0; run < 60; run++) {
+            int n = 4 + run % 9;
+            RoundBounds x = new RoundBounds(n);
+            int[] degrees = new int[n];
+            long lengths = 0;
+            for (int a = 2; a < n + 2; a++) {
+                int from = a < n ? a : 0;
+                int to = a < n ? 1 + Made.next(state, a - 1) : a == n ? 1 : n - 1;
+                int t = Made.next(state, 1000001);
+                x.way(from, to, t);
+                degrees[from]++;
+                degrees[to]++;
+                lengths += t;
+            }
+            dueWorths("the only tree, run " + run, x, lengths, degrees);
+        }
+    }
+
+    private void dueWorths(String name, RoundBounds x, long lengths, int[] degrees) {
+        long perStep = 0;
+        for (int degree : degrees) {
+            perStep += (degree - 2L) * (degree - 2);
+        }
+        long steps = 0;
+        for (int rounds = 1; rounds <= 50; rounds++) {
+            dueTree(name, x, rounds, lengths + steps * perStep / 2, perStep == 0 ? 1 : rounds);
+            steps += stepOf(rounds);
+        }
+    }
+
+    private static int stepOf(int round) {
+        return round <= 4 ? 16 : round <= 8 ? 8 : round <= 12 ? 4 : round <= 16 ? 2 : 1;
+    }
+
     private void bestIsAboveAllBefore() {
-        document.says("Terms", "if its worth is above all before it is the BEST");
+        document.says("Terms", "So many ROUNDS, each: the linked tree is made; if its worth is "
+                + "above all before it is the BEST");
         dueTree("the same worth in each round", Nets.ring(6, 8), 50, 48, 1);
         RoundBounds x = Nets.full(5, 10);
         // a star at 1 first: the next has 3-4 -12, 2-3 4, 1-3 36, 0-3 4, 0-4 4, which is less
@@ -185,14 +293,15 @@ public final class TreeTest {
     }
 
     private void steps() {
-        document.says("Terms", "(its degree less 2) times a STEP, which is 16 in the first four "
-                + "rounds, 8 in the next four, then 4, then 2, and 1 from the seventeenth on");
+        document.says("Terms", "then each place's weight changes by (its degree less 2) times a "
+                + "STEP, which is 16 in the first four rounds, 8 in the next four, then 4, then "
+                + "2, and 1 from the seventeenth on");
         RoundBounds x = Nets.hanging();
         // 1 has three streets and 3 has one: a round adds its step twice to the next worth
         long bound = 400;
         for (int rounds = 1; rounds <= 50; rounds++) {
             dueTree("hanging", x, rounds, bound, rounds);
-            bound += rounds <= 4 ? 16 : rounds <= 8 ? 8 : rounds <= 12 ? 4 : rounds <= 16 ? 2 : 1;
+            bound += stepOf(rounds);
         }
     }
 
@@ -229,6 +338,9 @@ public final class TreeTest {
             document.due("rounds() after tree(" + rounds + ")", x.rounds(), rounds);
             document.due("rounds() again", x.rounds(), rounds);
         }
+        RoundBounds ring = Nets.ring(6, 8);
+        ring.tree(50);
+        document.due("the first of 50 alike", ring.rounds(), 1);
         x.tree(9);
         Nets.street(x, 2, 3, 1);
         document.due("ways that come later change nothing", x.rounds(), 9);

@@ -74,7 +74,8 @@ public final class FreedomTest {
     /** The face has no toString of its own; the others look at no object. */
     private static boolean restsOnAnswersAlone(String name) {
         return switch (name) {
-            case "FaceTest", "LanguageTest", "SentenceMapTest", "BrokenTest", "FreedomTest" -> false;
+            case "FaceTest", "LanguageTest", "SentenceMapTest", "BrokenTest", "FreedomTest" ->
+                    false;
             default -> true;
         };
     }

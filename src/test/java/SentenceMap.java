@@ -19,11 +19,12 @@ final class SentenceMap {
 
             Each sentence of `../shared/DOC.md`, and under it the tests that hold it: each cites
             words of it (`document.says`), and fails when they are broken (`src/test/breaks.txt`
-            has a break of the class for each citation, and `BrokenTest` tries them all).
+            has a break of the class for each citation, and `BrokenTest` tries them all). The
+            member that stands before a promise's words, as code, is held by `FaceTest`.
             `SentenceMapTest` fails when this file is not in step with the document and the tests.
             """;
     private static final String FREE =
-            "- none: it promises nothing. `FreedomTest` holds that no test rests on it.\n";
+            "- none: it promises nothing, and no test rests on it (see `FreedomTest`).\n";
     /** Methods that are tests have no arguments; helpers that cite nothing are passed over. */
     private static final Pattern METHOD_OR_CITATION = Pattern.compile(
             "private void (\\w+)\\(\\) \\{"
